@@ -256,6 +256,9 @@ public final class PromiseTest {
         due("6 by 2000", y.slide(-1000, -1000, 2000), 1);
         due("6 by -2000", y.slide(1000, 1000, -2000), 1);
         state("6 there and back", y, "-1000=-10000");
+        PackedArray two = holding(1, 2);
+        due("6 the first of two over the second", two.slide(1, 1, 5), 1);
+        state("6 two in order", two, "2=20 6=10");
         PackedArray z = full(0);
         due("6 the lower half over the upper", z.slide(0, 23, 48), 24);
         due("6 select(0)", z.select(0), 24);
